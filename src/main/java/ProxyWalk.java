@@ -1689,11 +1689,11 @@ public final class ProxyWalk {
                 }
             }
             most = NONE;
-            tryRows(roads, 0, 0);
+            tryRows(roads, 0, 0, roads.feesOf(SETS - 1));
         }
 
-        /** Goes through the rows in order, so that of several best ones the first stays. */
-        private void tryRows(Roads roads, int s, int fees) {
+        /** Goes through the rows in order, so that of several best ones the first stays; left: what is not parted yet. */
+        private void tryRows(Roads roads, int s, int fees, int left) {
             if (s >= roads.sentences || s >= SENTENCES) {
                 if (fees > most) {
                     most = fees;
@@ -1701,17 +1701,18 @@ public final class ProxyWalk {
                 }
                 return;
             }
-            if (fees + roads.feesOf(SETS - (1 << s)) <= most) {
+            if (fees + left <= most) {
                 return;
             }
+            int fee = roads.fee[s];
             row[s] = NONE;
-            tryRows(roads, s + 1, fees);
+            tryRows(roads, s + 1, fees, left - fee);
             for (int w = 0; w < roads.walkers; w++) {
                 int with = sets[w] | 1 << s;
                 if ((fits[w] >> with & 1) != 0) {
                     row[s] = w;
                     sets[w] = with;
-                    tryRows(roads, s + 1, fees + roads.fee[s]);
+                    tryRows(roads, s + 1, fees + fee, left - fee);
                     sets[w] = with & ~(1 << s);
                 }
             }
