@@ -2,7 +2,7 @@ import java.util.Random;
 
 /** Asks the class and the model the same, many times over, and prints where they differ. */
 public final class ModelTest {
-    private static final int RUNS = 2500;
+    private static final int RUNS = 6000;
     private static final int CALLS = 170;
     private static int wrong = 0;
     private static long compared = 0;

@@ -174,6 +174,31 @@ public final class PromisesTest {
         due("home", p.walker(0, 1), 0);
         due("purse", p.walker(0, 2), 5);
         due("towns", p.shop(2), NONE);
+        p.take(0, 0);
+        p.shell(0, 0);
+        p.check(0);
+        p.take(0, 0);
+        roads(p, PAIR);
+        due("not banned", p.walker(0, 3), 0);
+        p.take(0, 0);
+        p.shell(0, 0);
+        roads(p, PAIR);
+        due("not sealed", p.count(8), 0);
+        p.force(0);
+        rule(p, "go 1");
+        p.force(1);
+        p.take(0, 0);
+        due("sealed rightly", p.day(), 1);
+        due("not bought", p.check(0), 0);
+        p.day();
+        roads(p, PAIR);
+        due("not paid", p.count(9), 0);
+        due("not checked", p.sentence(0, 6), 0);
+        roads(p, "roads 1;town;town;walker 3;walker 4");
+        due("no ways", p.count(2), 0);
+        due("no way", p.way(0, 1, 0), -2);
+        due("no shop", p.shop(0), 0);
+        due("no sentence", p.count(3), 0);
         roadsFaults();
     }
 
@@ -182,6 +207,9 @@ public final class PromisesTest {
         roadsFault("   ", 3, 0);
         roadsFault("Roads 1", 0, 0);
         roadsFault("roadss 1", 0, 0);
+        roadsFault("roadsz 1", 0, 0);
+        roadsFault("roadsa 1", 0, 0);
+        roadsFault(times(";", 400), 0, 0);
         roadsFault("road 1", 0, 0);
         roadsFault("roads", 5, 0);
         roadsFault("roads  ", 7, 0);
@@ -276,6 +304,9 @@ public final class PromisesTest {
         ruleFault("go 1; town", 6, 0);
         ruleFault("roads 1", 0, 0);
         ruleFault("go 1\u00ff", 4, 0);
+        ruleFault("go 1" + times("=", 396), 4, 0);
+        ruleFault("go 1" + times(" ", 395) + "+", 400, 0);
+        due("400 bytes", rule(new ProxyWalk(), "go 1" + times(" ", 396)), 0);
         due("no blanks", rule(new ProxyWalk(), "go1if1=1and not[1>2]or 2>=1;go2"), 0);
     }
 
@@ -580,6 +611,8 @@ public final class PromisesTest {
         days(p, 4);
         due("day 4", p.count(7), 4);
         due("free again", p.take(0, 0), 1);
+        due("sealed rightly", p.day(), 1);
+        due("not falsely any more", p.check(0), 0);
         p = on(PAIR);
         p.take(0, 0);
         p.shell(0, 0);
@@ -717,9 +750,9 @@ public final class PromisesTest {
         due("with themselves", p.meet(1, 1), NONE);
         due("no walker", p.meet(0, 3), NONE);
         due("no walker", p.meet(-1, 0), NONE);
-        p = on("roads 0;town;town;way 0 1 1;walker 0;walker 0", "go 1 if walker=0 and day=0;go 1 if day=101");
+        p = on("roads 0;town;town;way 0 1 1;walker 0;walker 0", "go 1 if walker=0 and [day=0 or day=100]");
         days(p, 1);
-        due("the hundredth day is the last", p.meet(0, 1), -2);
+        due("day 101 is beyond", p.meet(0, 1), -2);
         p = on("roads 0;town;town;way 0 1 1;walker 0;walker 0", "go 1 if walker=0 and [day=0 or day=99]");
         days(p, 1);
         due("day 100 is the hundredth", p.meet(0, 1), 100);
@@ -1102,6 +1135,47 @@ public final class PromisesTest {
         due("images are made over", p.image(0), 0);
         due("images are made over", p.back(0), 0);
         due("no towns", p.count(1), 0);
+        imagesHoldAll();
+    }
+
+    private static void imagesHoldAll() {
+        ProxyWalk p = on("roads 9;town;town;town;shop 0 1;way 0 1 1;way 1 2 1;sentence 1 9 5;sentence 2 9 6;sentence 0 9 7;walker 9;walker 8",
+            "go town", "go town if walker=0");
+        p.take(0, 0);
+        p.shell(0, 0);
+        p.check(0);
+        p.take(1, 1);
+        p.shell(1, 1);
+        p.log(0, 0, 1);
+        p.log(1, 1, 0);
+        p.image(2);
+        due("banned, and so is the other one", p.check(1), 1);
+        p.log(NONE, 0, 0);
+        p.log(0, 0, 0);
+        p.log(1, 0, 0);
+        p.day();
+        p.day();
+        p.undo();
+        due("none by that log", p.ruled(1), NONE);
+        p.back(2);
+        due("by the logs that were", p.ruled(0), 1);
+        due("by the logs that were", p.ruled(1), 1);
+        due("banned then", p.walker(0, 3), 9);
+        due("not banned then", p.walker(1, 3), 0);
+        due("walker 1's", p.walker(1, 4), 2);
+        due("sealed", p.count(8), 2);
+        due("bought", p.check(1), 1);
+        due("banned now", p.walker(1, 3), 9);
+        for (int left = 5; left >= 0; left--) due("undo", p.undo(), left);
+        due("as at first", p.walker(0, 2), 9);
+        due("as at first", p.walker(0, 3), 0);
+        p.back(2);
+        due("undo", p.undo(), 4);
+        due("not sealed", p.count(8), 0);
+        due("undo", p.undo(), 3);
+        due("nobody's", p.sentence(1, 3), NONE);
+        due("undo", p.undo(), 2);
+        due("falsely sealed", p.check(0), 1);
     }
 
     public static void main(String[] args) {
