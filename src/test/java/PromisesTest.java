@@ -1,73 +1,5 @@
 /** Every promise of the document by hand: ordinary inputs, the edges it names, and wrong inputs. */
-public final class PromisesTest {
-    private static final int NONE = -1;
-    private static int wrong = 0;
-    private static int asked = 0;
-    private static String part = "";
-
-    /** Four towns round about, a shop in town 1, three sentences, two walkers. */
-    private static final String RING = "roads 5;town;town;town;town;shop 1 3;way 0 1 2;way 1 2 3;way 0 3 4;way 2 3 1;"
-        + "sentence 2 8 20;sentence 3 3 7;sentence 1 0 5;walker 6;walker 2";
-    /** Home and one town a day away, shops in both. */
-    private static final String PAIR = "roads 4;town;town;shop 0 2;shop 1 9;way 0 1 1;sentence 1 50 10;walker 5";
-    /** A line of towns, one day each. */
-    private static final String LINE = "roads 3;town;town;town;town;way 0 1 1;way 1 2 1;way 2 3 1;"
-        + "sentence 3 20 30;sentence 1 20 8;walker 10;walker 20;walker 30";
-    private static final String SEEKER = "go 99-home if has=sealed and has>0;go asked*50+town if has>0";
-
-    private static void due(String call, long got, long want) {
-        asked++;
-        if (got != want) {
-            wrong++;
-            System.out.println(part + ": " + call + " answered " + got + ", due is " + want);
-        }
-    }
-
-    private static void due(String call, boolean got, boolean want) {
-        due(call, got ? 1 : 0, want ? 1 : 0);
-    }
-
-    private static void tell(ProxyWalk p, String text) {
-        p.end(0);
-        for (int from = 0; from < text.length(); from += 20) {
-            int[] five = new int[5];
-            for (int i = 0; i < 20; i++) {
-                int sign = from + i < text.length() ? text.charAt(from + i) : 0;
-                five[i / 4] = five[i / 4] << 8 | sign;
-            }
-            p.feed(five[0], five[1], five[2], five[3], five[4]);
-        }
-        p.end(text.length());
-    }
-
-    private static int roads(ProxyWalk p, String text) {
-        tell(p, text);
-        return p.roads();
-    }
-
-    private static int rule(ProxyWalk p, String text) {
-        tell(p, text);
-        return p.rule();
-    }
-
-    private static ProxyWalk on(String roads, String... rules) {
-        ProxyWalk p = new ProxyWalk();
-        roads(p, roads);
-        for (String r : rules) rule(p, r);
-        if (rules.length > 0) p.force(0);
-        return p;
-    }
-
-    private static int days(ProxyWalk p, int n) {
-        int sealed = 0;
-        for (int i = 0; i < n; i++) sealed += p.day();
-        return sealed;
-    }
-
-    private static int fault(int place, int kind) {
-        return -2 - (1 + 8 * place + kind);
-    }
-
+public final class PromisesTest extends Bench {
     private static void roadsFault(String text, int place, int kind) {
         due("roads of '" + text + "'", roads(new ProxyWalk(), text), fault(place, kind));
     }
@@ -76,23 +8,8 @@ public final class PromisesTest {
         due("rule of '" + text + "'", rule(new ProxyWalk(), text), fault(place, kind));
     }
 
-    private static String times(String s, int n) {
-        return s.repeat(n);
-    }
-
-    /** What a rule's sum is for the way from home to town 1 (0 if it is not above). */
-    private static void goes(String rule, boolean want) {
-        ProxyWalk p = on("roads 0;town;town;shop 1 7;way 0 1 2;sentence 1 5 1;sentence 1 9 1;sentence 0 9 1;walker 8");
-        p.take(0, 0);
-        p.take(0, 1);
-        due("rule() of " + rule, rule(p, rule), 0);
-        p.force(0);
-        p.day();
-        due("gone by " + rule, p.walker(0, 0) == 1, want);
-    }
-
     private static void newObject() {
-        part = "1 new";
+        part("1 new");
         ProxyWalk p = new ProxyWalk();
         for (int what = 0; what <= 14; what++) due("count(" + what + ")", p.count(what), what == 6 ? NONE : 0);
         due("NONE", ProxyWalk.NONE, -1);
@@ -102,7 +19,7 @@ public final class PromisesTest {
     }
 
     private static void feed() {
-        part = "2 feed";
+        part("2 feed");
         ProxyWalk p = new ProxyWalk();
         for (int i = 1; i <= 20; i++) due("feed", p.feed(-1, 0, 1, 2, 3), 20 * i);
         due("feed past 400", p.feed(0, 0, 0, 0, 0), NONE);
@@ -119,7 +36,7 @@ public final class PromisesTest {
     }
 
     private static void end() {
-        part = "3 end";
+        part("3 end");
         ProxyWalk p = new ProxyWalk();
         due("end(1)", p.end(1), NONE);
         due("end(0)", p.end(0), 0);
@@ -134,7 +51,7 @@ public final class PromisesTest {
     }
 
     private static void roadsRead() {
-        part = "4 roads";
+        part("4 roads");
         ProxyWalk p = new ProxyWalk();
         due("roads", roads(p, RING), 4);
         due("count(14)", p.count(14), 0);
@@ -251,7 +168,7 @@ public final class PromisesTest {
     }
 
     private static void ruleRead() {
-        part = "5 rule";
+        part("5 rule");
         ProxyWalk p = new ProxyWalk();
         due("first", rule(p, "go 1"), 0);
         due("a fault", rule(p, "go 1 2"), fault(5, 0));
@@ -374,7 +291,7 @@ public final class PromisesTest {
     }
 
     private static void force() {
-        part = "6 force";
+        part("6 force");
         ProxyWalk p = on(PAIR);
         due("none such", p.force(0), -2);
         rule(p, "go 1");
@@ -393,7 +310,7 @@ public final class PromisesTest {
     }
 
     private static void sentence() {
-        part = "7 sentence";
+        part("7 sentence");
         ProxyWalk p = on(PAIR, "go 1");
         int[] first = {1, 50, 10, NONE, 0, 0, 0};
         for (int i = 0; i < 7; i++) due("sentence(0, " + i + ")", p.sentence(0, i), first[i]);
@@ -415,7 +332,7 @@ public final class PromisesTest {
     }
 
     private static void walker() {
-        part = "8 walker";
+        part("8 walker");
         ProxyWalk p = on(RING, SEEKER);
         p.take(0, 0);
         p.take(0, 1);
@@ -431,7 +348,7 @@ public final class PromisesTest {
     }
 
     private static void shop() {
-        part = "9 shop";
+        part("9 shop");
         ProxyWalk p = on(RING);
         due("shop(1)", p.shop(1), 3);
         due("shop(0)", p.shop(0), 0);
@@ -441,7 +358,7 @@ public final class PromisesTest {
     }
 
     private static void day() {
-        part = "10 day";
+        part("10 day");
         due("without roads", new ProxyWalk().day(), NONE);
         ProxyWalk p = on("roads 0;town;town;way 0 1 1;sentence 1 1 90;sentence 1 0 5;sentence 0 2 7;sentence 1 0 3;walker 0", "go 1");
         for (int s = 0; s < 3; s++) p.take(0, s);
@@ -501,7 +418,7 @@ public final class PromisesTest {
     }
 
     private static void take() {
-        part = "11 take";
+        part("11 take");
         ProxyWalk p = on(LINE, "go town");
         due("take", p.take(0, 0), 1);
         due("take another", p.take(0, 1), 2);
@@ -526,7 +443,7 @@ public final class PromisesTest {
     }
 
     private static void giveBack() {
-        part = "12 giveBack";
+        part("12 giveBack");
         ProxyWalk p = on(PAIR, "go 1");
         due("not theirs", p.giveBack(0, 0), NONE);
         p.take(0, 0);
@@ -548,7 +465,7 @@ public final class PromisesTest {
     }
 
     private static void swap() {
-        part = "13 swap";
+        part("13 swap");
         ProxyWalk p = on(LINE, "go town if walker<2");
         p.take(0, 0);
         p.take(1, 1);
@@ -570,7 +487,7 @@ public final class PromisesTest {
     }
 
     private static void shell() {
-        part = "14 shell";
+        part("14 shell");
         ProxyWalk p = on(PAIR, "go 1");
         due("not theirs", p.shell(0, 0), NONE);
         p.take(0, 0);
@@ -594,7 +511,7 @@ public final class PromisesTest {
     }
 
     private static void check() {
-        part = "15 check";
+        part("15 check");
         ProxyWalk p = on(PAIR, "go 1");
         p.take(0, 0);
         due("not sealed", p.check(0), NONE);
@@ -659,7 +576,7 @@ public final class PromisesTest {
     }
 
     private static void undo() {
-        part = "16 undo";
+        part("16 undo");
         ProxyWalk p = on(PAIR, "go 1");
         due("none", p.undo(), -2);
         p.take(0, 0);
@@ -698,7 +615,7 @@ public final class PromisesTest {
     }
 
     private static void ahead() {
-        part = "17 ahead";
+        part("17 ahead");
         ProxyWalk p = on(RING, SEEKER);
         p.take(0, 0);
         p.take(0, 1);
@@ -722,7 +639,7 @@ public final class PromisesTest {
     }
 
     private static void way() {
-        part = "18 way";
+        part("18 way");
         ProxyWalk p = on(RING);
         due("0 to 2", p.way(0, 2, 0), 5);
         due("of several the least", p.way(0, 2, 1), 1);
@@ -740,7 +657,7 @@ public final class PromisesTest {
     }
 
     private static void meet() {
-        part = "19 meet";
+        part("19 meet");
         ProxyWalk p = on("roads 0;town;town;town;way 0 1 3;way 0 2 2;walker 0;walker 0;walker 0", "go town+1 if walker=0;go 3-town if walker=1");
         due("now", p.meet(0, 1), 0);
         days(p, 1);
@@ -763,7 +680,7 @@ public final class PromisesTest {
     }
 
     private static void round() {
-        part = "20 round";
+        part("20 round");
         ProxyWalk p = on(RING, SEEKER);
         due("fees", p.round(0, 0), 27);
         due("set", p.round(0, 1), 3);
@@ -802,7 +719,7 @@ public final class PromisesTest {
     }
 
     private static void parted() {
-        part = "21 parted";
+        part("21 parted");
         ProxyWalk p = on(RING, SEEKER);
         int[] first = {27, 0, 0, NONE, -2, -2, -2, -3};
         for (int i = 0; i < 8; i++) due("parted(" + i + ")", p.parted(i), first[i]);
@@ -826,7 +743,7 @@ public final class PromisesTest {
     }
 
     private static void seals() {
-        part = "22 seals";
+        part("22 seals");
         ProxyWalk p = on(RING);
         due("2", p.seals(2, 0), 1);
         due("2", p.seals(2, 1), 4);
@@ -852,7 +769,7 @@ public final class PromisesTest {
     }
 
     private static void saves() {
-        part = "23 saves";
+        part("23 saves");
         ProxyWalk p = on(RING);
         due("0", p.saves(0), 6);
         due("1", p.saves(1), 4);
@@ -869,7 +786,7 @@ public final class PromisesTest {
     }
 
     private static void owed() {
-        part = "24 owed";
+        part("24 owed");
         ProxyWalk p = on(RING, SEEKER);
         due("not theirs", p.owed(0, 0), NONE);
         p.take(0, 0);
@@ -902,7 +819,7 @@ public final class PromisesTest {
     }
 
     private static void choose() {
-        part = "25 choose";
+        part("25 choose");
         ProxyWalk p = on(LINE, "go 9-home if has=sealed and has>0;go asked*50+town if has>0");
         due("sentence", p.choose(0, 6, 0), 0);
         due("purse", p.choose(0, 6, 1), 40);
@@ -933,7 +850,7 @@ public final class PromisesTest {
     }
 
     private static void log() {
-        part = "26 log";
+        part("26 log");
         ProxyWalk p = on(RING);
         due("first", p.log(0, 0, 0), 1);
         due("on a way", p.log(60, 1, NONE), 2);
@@ -953,7 +870,7 @@ public final class PromisesTest {
     }
 
     private static void ruled() {
-        part = "27 ruled";
+        part("27 ruled");
         ProxyWalk p = on(LINE, "go town", "go 5-town", "go asked", "go 1 if purse=10");
         due("all", p.ruled(0), 5);
         due("none is first", p.ruled(1), NONE);
@@ -984,7 +901,7 @@ public final class PromisesTest {
     }
 
     private static void look() {
-        part = "28 look";
+        part("28 look");
         ProxyWalk p = on("roads 0;town;town;town;way 0 1 1;way 0 2 2;walker 0;walker 0",
             "go town if walker=1", "go 3-town if walker=1", "go town");
         due("walker 0: 0, 0, 0, way", p.look(0, 1), 2);
@@ -1008,7 +925,7 @@ public final class PromisesTest {
     }
 
     private static void seed() {
-        part = "29 seed";
+        part("29 seed");
         ProxyWalk p = new ProxyWalk();
         due("0 at first", p.seed(2147483647), 0);
         due("below 0", p.seed(-1), NONE);
@@ -1038,7 +955,7 @@ public final class PromisesTest {
     }
 
     private static void years() {
-        part = "30 years";
+        part("30 years");
         ProxyWalk p = on("roads 0;town;town;way 0 1 3;walker 40;walker 0", "go 1 if walker=0");
         due("never", p.years(10, 60, 0, 0), 0);
         due("purses", p.years(10, 60, 0, 1), 400);
@@ -1066,7 +983,7 @@ public final class PromisesTest {
     }
 
     private static void count() {
-        part = "31 count";
+        part("31 count");
         ProxyWalk p = on(RING, SEEKER, "go 1");
         p.take(0, 0);
         p.take(0, 1);
@@ -1086,7 +1003,7 @@ public final class PromisesTest {
     }
 
     private static void images() {
-        part = "32, 33 image, back";
+        part("32, 33 image, back");
         ProxyWalk p = new ProxyWalk();
         due("never made", p.back(0), NONE);
         due("image(-1)", p.image(-1), NONE);
@@ -1211,7 +1128,6 @@ public final class PromisesTest {
         years();
         count();
         images();
-        System.out.println(asked + " answers, " + wrong + " not as due");
-        if (wrong != 0) System.exit(1);
+        close();
     }
 }
