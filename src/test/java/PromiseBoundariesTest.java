@@ -104,6 +104,18 @@ public final class PromiseBoundariesTest extends Bench {
         due("seals as on a new object", p.seals(1, 1), q.seals(1, 1));
         due("no towns", roads(p, "roads 7"), 0);
         due("as on a new object", state(p).equals(state(on("roads 7"))), true);
+        roads(p, "roads 0;town" + times(";sentence 0 9 99", 6) + ";walker 0;walker 0");
+        due("FEES of six", p.parted(0), 594);
+        roads(p, "roads 0;town;sentence 0 9 1;walker 0");
+        due("FEES of one", p.parted(0), 1);
+        due("the set of one", p.round(0, 1), 1);
+        ProxyWalk r = on(PAIR, "go 1");
+        r.take(0, 0);
+        r.shell(0, 0);
+        roads(r, PAIR);
+        r.take(0, 0);
+        due("sealed", r.day(), 1);
+        due("no shell was bought for it", r.check(0), 0);
     }
 
     @Sentence(of = "Promise 4", says = "(no LOGS, nothing to be UNDONE;")
@@ -177,9 +189,11 @@ public final class PromiseBoundariesTest extends Bench {
         due("no such RULE", p.force(1), -2);
         due("of an empty TAPE", p.rule(), fault(0, 0));
         due("the RULE there was", p.ahead(0, 1, 0), 1);
-        due("the next", rule(p, "go 0"), 1);
+        for (int i = 0; i < 20; i++) due("a fault", rule(p, "go town*days+1 if " + times("1=2 or ", 15) + "x"), fault(18 + 105, 0));
+        due("the next", rule(p, "go 0 if day=0;go town"), 1);
         p.force(1);
         due("is as told", p.ahead(0, 1, 0), 0);
+        due("is as told", p.ahead(0, 2, 0), 1);
     }
 
     @Sentence(of = "Promise 5", says = "NONE, and nothing happens: there are 6.")
@@ -514,6 +528,8 @@ public final class PromiseBoundariesTest extends Bench {
         for (int far : FAR_OFF) refused(p, "sentence " + far, () -> p.check(far), NONE);
         p.take(0, 0);
         p.day();
+        // A number that is 0 but for its high bits is another one.
+        for (int off : new int[] {32, -32, 64, 256, 1 << 16}) refused(p, "sentence " + off, () -> p.check(off), NONE);
         p.check(0);
         refused(p, "checked", () -> p.check(0), NONE);
         ProxyWalk q = new ProxyWalk();

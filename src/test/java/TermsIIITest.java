@@ -450,6 +450,11 @@ public final class TermsIIITest extends Bench {
         due("they go to town 2: 50 * 5 / 7", p.owed(0, 0), 35);
         due("99 * 5 / 7", p.owed(0, 1), 70);
         due("10 * 5 / 5", p.owed(0, 2), 10);
+        ProxyWalk q = on("roads 0;town;town;way 0 1 1;sentence 1 0 50;walker 0", "go town if day>0");
+        q.take(0, 0);
+        days(q, 2);
+        due("too late for a seal", q.sentence(0, 4), 0);
+        due("they are there: 50 * 1 / 1", q.owed(0, 0), 50);
     }
 
     @Sentence(of = "Terms III, OWED", says = "0 at least")
@@ -542,10 +547,11 @@ public final class TermsIIITest extends Bench {
     static void tenLogs() {
         ProxyWalk p = on(LINE, "go town");
         for (int i = 0; i < 10; i++) {
-            due("log", p.log(i, 0, Math.min(i + 1, i % 2 == 0 && i > 2 ? 2 : 3)), i + 1);
+            due("log", p.log(i, 0, i == 0 ? 1 : i % 2 == 0 ? 3 : 2), i + 1);
             due("logs", p.count(11), i + 1);
         }
-        due("the last one is held", p.ruled(0), 0);
+        due("all ten are so by one rule", p.ruled(0), 1);
+        due("all ten are so by rule 0", p.ruled(1), 0);
         refused(p, "an eleventh", () -> p.log(0, 0, 1), -2);
         p.log(NONE, 0, 0);
         for (int i = 0; i < 9; i++) p.log(0, 0, 1);
@@ -666,6 +672,22 @@ public final class TermsIIITest extends Bench {
         due("all alike", r.look(59, 0), 0);
         due("behind the last day", r.look(60, 1), 3);
         due("behind the last day", r.look(60, 0), 1);
+        ProxyWalk s = on("roads 0" + times(";town", 8) + ";way 0 7 1;way 0 1 2;way 0 6 1;walker 0;walker 0;walker 0",
+            "go 1 if town=7", "go 1 if town=1", "go 2-town", "go 1 if town=1 and walker<2;go 1 if town=6");
+        // Behind day 0, none and the rules: walkers 0 and 1 at 0 7 way way way, walker 2 at 0 7 way way 6.
+        due("the last town, and ways", s.look(0, 0), 2);
+        due("the last town, and ways", s.look(0, 1), 2);
+        s.log(0, 1, NONE);
+        due("on ways most are alike", s.look(0, 1), 2);
+        s.log(0, 2, NONE);
+        due("on ways all are alike", s.look(0, 1), 2);
+        due("on ways all are alike", s.look(0, 0), 0);
+        ProxyWalk t = on("roads 0;town;town;town;way 0 1 1;way 1 2 1;walker 0", "go town", "go town if town=1", "go town if day>5");
+        t.log(9, 0, 2);
+        due("behind day 0, whatever day was told: 1 0", t.look(0, 1), 1);
+        due("behind day 1: 2 0", t.look(1, 1), 1);
+        due("behind day 5: 2 0", t.look(5, 1), 1);
+        due("behind day 6: 1 1", t.look(6, 1), 2);
     }
 
     // ---- DRAWS, YEARS
@@ -816,6 +838,46 @@ public final class TermsIIITest extends Bench {
             if (i + 1 < pasts.length) p.undo();
         }
         refused(p, "no more", p::undo, -2);
+    }
+
+    @Sentence(of = "Terms III, IMAGES", says = "all but the RULES and the TAPE, as it is (the RULE IN FORCE, what can be UNDONE, too);")
+    static void imagesHoldChecksAndLogs() {
+        ProxyWalk p = on("roads 5;town;town;shop 0 1;way 0 1 1;sentence 0 9 3;sentence 1 9 4;walker 9;walker 8", "go 1 if walker=1");
+        p.take(0, 0);
+        p.take(1, 1);
+        p.shell(1, 1);
+        p.day();
+        p.check(0);
+        p.log(0, 1, 1);
+        p.image(0);
+        due("falsely", p.check(1), 1);
+        p.log(NONE, 0, 0);
+        p.log(1, 0, 0);
+        due("none too", p.ruled(0), 2);
+        p.image(1);
+        roads(p, "roads 5;town;town;shop 0 1;way 0 1 1;sentence 0 9 3;sentence 1 9 4;walker 9;walker 8");
+        due("not checked", p.sentence(0, 6), 0);
+        p.back(0);
+        due("checked", p.sentence(0, 6), 1);
+        due("the LOG: not none", p.ruled(0), 1);
+        due("the LOG: rule 0", p.ruled(1), 0);
+        due("bought", p.check(1), 1);
+        due("by walker 1", p.walker(1, 3), 6);
+        due("not by walker 0", p.walker(0, 3), 0);
+        p.back(1);
+        due("the other LOG", p.ruled(0), 2);
+        due("found out", p.sentence(1, 4), 0);
+        due("found out", p.walker(1, 3), 6);
+        p.back(0);
+        p.log(NONE, 0, 0);
+        for (int n = 0; n < 10; n++) p.log(n, 1, n % 2 == 0 ? 1 : 0);
+        p.image(2);
+        p.log(NONE, 0, 0);
+        for (int n = 0; n < 10; n++) p.log(0, 0, 1);
+        due("not so", p.ruled(0), 0);
+        p.back(2);
+        due("all ten LOGS", p.ruled(0), 1);
+        due("all ten LOGS", p.count(11), 10);
     }
 
     private static void due(String call, String got, String want) {

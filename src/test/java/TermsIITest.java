@@ -66,6 +66,10 @@ public final class TermsIITest extends Bench {
         p.force(0);
         p.day();
         due("on a way they don't turn", p.walker(0, 0), 1);
+        String eight = "roads 0" + times(";town", 8) + ";way 0 1 1;way 1 7 1;way 7 0 1;walker 0";
+        due("of eight towns the last", on(eight, "go town").ahead(0, 1, 0), 7);
+        due("and from there the last but it", on(eight, "go town").ahead(0, 2, 0), 1);
+        due("of eight towns the first", on(eight, "go 9-town").ahead(0, 2, 0), 0);
     }
 
     @Sentence(of = "Terms II, A DAY", says = "if it is above 0")
@@ -406,8 +410,11 @@ public final class TermsIITest extends Bench {
         p.day();
         refused(p, "when it is paid", () -> p.check(0), NONE);
         p.undo();
+        due("the day is undone, not the check", p.sentence(0, 6), 1);
+        refused(p, "checked still", () -> p.check(0), NONE);
         p.undo();
-        due("the check is undone", p.check(0), 0);
+        due("the check is undone", p.sentence(0, 6), 0);
+        due("it can be again", p.check(0), 0);
     }
 
     @Sentence(of = "Terms II, ACTS", says = "if it is so falsely, the WALKER who bought the shell may not TAKE any for BANNED DAYS, this one the first")

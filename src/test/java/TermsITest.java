@@ -17,6 +17,8 @@ public final class TermsITest extends Bench {
         due("400 bytes", roads(p, text.replace(";town", times(" ", 379) + ";town")), 1);
         due("the last byte is read", p.walker(0, 2), 1);
         roadsFault("roads 7;" + times(" ", 392) + "^", 0);
+        roadsFault("^" + times(";", 400), 0);
+        roadsFault("roads 7;town^" + times("=", 388), 0);
     }
 
     @Sentence(of = "Terms I, ROADS", says = "CLAUSE { ; CLAUSE }")
@@ -259,6 +261,10 @@ public final class TermsITest extends Bench {
         ruleIs("go" + times(" ", 397) + "1");
         ruleFault("go 1" + times(" ", 395) + "^2", 0);
         ruleFault("go 1 +" + times(" ", 394) + "^", 0);
+        ruleFault("go 1 if 1" + times(" ", 390) + "<^", 0);
+        ruleFault("^" + times("[", 400), 0);
+        ruleIs("go 1+" + times(" ", 392) + "day");
+        ruleIs("go 1+" + times(" ", 390) + "99999");
         ruleFault("^", 0);
         ruleFault("^;go 1", 0);
         ruleFault("go 1;^", 0);
@@ -272,6 +278,8 @@ public final class TermsITest extends Bench {
         ruleFault("go 1" + times(";go 1", 11) + ";^go 1", 4);
         goes(times("go 0 if 1=2;", 11) + "go 1", true);
         goes(times("go 1 if 1=2;", 11) + "go 0", false);
+        goes(times("go 1 if 1=2;", 11) + "go 1 if 1=1", true);
+        goes(times("go 1 if 1=2;", 11) + "go 1 if 1=2", false);
     }
 
     @Sentence(of = "Terms I, RULES", says = "go SUM [ if TEST ].")
@@ -359,6 +367,12 @@ public final class TermsITest extends Bench {
             holds("6" + signs[i] + "5", i > 2);
             holds("0-6" + signs[i] + "5", i < 2);
             holds("2+2*3" + signs[i] + "9-1", i > 0 && i < 4);
+            holds("4" + signs[i] + "5 and 5=5", i < 2);
+            holds("5=5 and 5" + signs[i] + "5", i > 0 && i < 4);
+            holds("6" + signs[i] + "5 or 5=6", i > 2);
+            holds("not 4" + signs[i] + "5", i >= 2);
+            holds("not 5" + signs[i] + "5", i == 0 || i == 4);
+            holds("not 6" + signs[i] + "5", i <= 2);
             ruleFault("go 1 if ^" + signs[i] + "5", 0);
             ruleFault("go 1 if 5" + signs[i] + "^", 0);
             ruleFault("go 1 if 5^", 0);
@@ -717,8 +731,14 @@ public final class TermsITest extends Bench {
     static void numbersOfMoreDigits() {
         roadsFault("roads ^000000", 1);
         roadsFault("roads 1;town;walker ^000007", 1);
+        roadsFault("roads 1;town;shop ^000000 1", 1);
+        roadsFault("roads 1;town;shop 0 ^000001", 1);
+        roadsFault("roads 1;town;town;way ^000000 1 1", 1);
         roadsFault("roads 1;town;town;way 0 ^000001 1", 1);
         roadsFault("roads 1;town;town;way 0 1 ^000001", 1);
+        roadsFault("roads 1;town;sentence ^000000 1 1", 1);
+        roadsFault("roads 1;town;sentence 0 ^000001 1", 1);
+        roadsFault("roads 1;town;sentence 0 1 ^000001", 1);
         roadsFault("roads 1;town;sentence 0 ^0000000000000000000000000000000000000001 1", 1);
         roadsAre("roads 00000;town;town;way 00000 00001 00009;sentence 00001 00299 00099;walker 00099", 2);
         ruleFault("go ^000000", 1);
