@@ -194,6 +194,10 @@ public final class PromiseBoundariesTest extends Bench {
         p.force(1);
         due("is as told", p.ahead(0, 1, 0), 0);
         due("is as told", p.ahead(0, 2, 0), 1);
+        due("a fault", rule(p, "go 1+1+1;x"), fault(9, 0));
+        due("the next", rule(p, "go 1 if 1=1"), 2);
+        p.force(2);
+        due("has nothing of the text that had a fault", p.ahead(0, 1, 0), 1);
     }
 
     @Sentence(of = "Promise 5", says = "NONE, and nothing happens: there are 6.")
