@@ -1,3 +1,4 @@
+import java.lang.reflect.Array;
 import java.lang.reflect.Constructor;
 import java.lang.reflect.Field;
 import java.lang.reflect.Method;
@@ -5,7 +6,9 @@ import java.lang.reflect.Modifier;
 import java.nio.file.Files;
 import java.nio.file.Path;
 import java.util.ArrayList;
+import java.util.Collections;
 import java.util.HashSet;
+import java.util.IdentityHashMap;
 import java.util.List;
 import java.util.Set;
 import java.util.TreeSet;
@@ -126,7 +129,41 @@ public final class LanguageTest {
         }
     }
 
+    /** One object with all it holds is a small part of the room, and 512 calls make it no larger. */
+    private static void room() throws Exception {
+        ProxyWalk p = new ProxyWalk();
+        long[] before = held(p);
+        for (int i = 0; i < 4; i++) p.image(i);
+        for (int i = 0; i < 508; i++) p.feed(i, i, i, i, i);
+        long[] after = held(p);
+        hold(before[0] <= 1000 && before[1] <= 20000, "little room: " + before[0] + " objects, " + before[1] + " fields and elements");
+        hold(before[0] == after[0] && before[1] == after[1], "no more room later: " + after[0] + " objects, " + after[1]);
+    }
+
+    /** Objects and arrays that can be come to from one; their fields and elements. */
+    private static long[] held(Object first) throws Exception {
+        long[] sums = new long[2];
+        Set<Object> seen = Collections.newSetFromMap(new IdentityHashMap<>());
+        List<Object> open = new ArrayList<>(List.of(first));
+        while (!open.isEmpty()) {
+            Object o = open.remove(open.size() - 1);
+            if (!seen.add(o)) continue;
+            sums[0]++;
+            sums[1] += o.getClass().isArray() ? Array.getLength(o) : 0;
+            for (int i = 0; o instanceof Object[] all && i < all.length; i++) open.add(all[i]);
+            for (Field f : o.getClass().getDeclaredFields()) {
+                if (Modifier.isStatic(f.getModifiers())) continue;
+                sums[1]++;
+                if (f.getType().isPrimitive()) continue;
+                f.setAccessible(true);
+                if (f.get(o) != null) open.add(f.get(o));
+            }
+        }
+        return sums;
+    }
+
     public static void main(String[] args) throws Exception {
+        room();
         String source = Files.readString(Path.of("src/main/java/ProxyWalk.java"));
         face();
         members();
